@@ -111,7 +111,7 @@ public final class ClauseDrafts {
             case 0: return d.depthOf(c);
             case 1: return d.lengthOf(c);
             case 2: return d.parentOf(c);
-            case 3: return drafts.branchWeight(side, c);
+            case 3: return costs.weightOf(side, c);
             case 4: return d.branchSize(c);
             case 5: return pairing.sameAs(side, c);
             case 6: return pairing.fateOf(side, c);
@@ -432,8 +432,9 @@ public final class ClauseDrafts {
         return within(code, 1, LAST_LETTER) || isReference(code);
     }
 
+    /** For words of drafts, among which the references are the highest codes. */
     private static boolean areAlike(int one, int other) {
-        return one == other || isReference(one) && isReference(other);
+        return one == other || one >= REFERENCE && other >= REFERENCE;
     }
 
     private boolean isClause(int side, int c) {
@@ -799,10 +800,6 @@ public final class ClauseDrafts {
         int weightOf(int side, int first, int clauses) {
             return headWeight * clauses + of(side).wordsFrom(first, clauses);
         }
-
-        int branchWeight(int side, int c) {
-            return weightOf(side, c, of(side).branchSize(c));
-        }
     }
 
     /** The bytes that were fed, and how they are read as two drafts. */
@@ -990,7 +987,7 @@ public final class ClauseDrafts {
         private void noteClauses(Drafts drafts, int side) {
             Draft d = drafts.of(side);
             for (int c = 0; c < d.size(); c++) {
-                weights.set(side, c, drafts.branchWeight(side, c));
+                weights.set(side, c, drafts.weightOf(side, c, d.branchSize(c)));
                 nexts.set(side, c, d.nextInRow(c));
             }
         }
@@ -1401,8 +1398,10 @@ public final class ClauseDrafts {
                 rows.set(size, CHOICE, OPEN);
                 rows.set(size, OLD_CLAUSE, a);
                 rows.set(size, NEW_CLAUSE, b);
+                for (int column = OLD_BEFORE; column < COLUMNS; column++) {
+                    rows.set(size, column, NONE);
+                }
                 size++;
-                noteWords(NONE, NONE, NONE, NONE);
             }
         }
 
