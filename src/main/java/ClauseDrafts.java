@@ -43,8 +43,8 @@ public final class ClauseDrafts {
     private final Image secondImage = new Image();
     private final Sheets sheets = new Sheets();
 
+    /** Drafts without clauses need no comparing: it would find the zeros that are there. */
     public ClauseDrafts() {
-        compareAgain();
     }
 
     // ---- the text

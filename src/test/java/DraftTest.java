@@ -141,6 +141,8 @@ final class DraftTest {
         ClauseDrafts x = Check.made(MOVED);
         Check.due("costs", "11 1 5 5 10", x.cost(0), x.cost(1), x.cost(2), x.cost(3), x.cost(4));
         Check.due("cost out of range", "-1 -1 -1 -1", x.cost(-1), x.cost(5), x.cost(FAR), x.cost(LOW));
+        x.head(2);
+        Check.due("found anew", "11 1 5 5 10", x.cost(0), x.cost(1), x.cost(2), x.cost(3), x.cost(4));
         x = Check.made("<0ab;1c#3;0d;0#2e;>0ab;0d;1cx#3;0#1e;");
         Check.due("costs", "9 0 4 5 0", x.cost(0), x.cost(1), x.cost(2), x.cost(3), x.cost(4));
         x = Check.made("<0abc;1d;>");

@@ -195,6 +195,8 @@ final class ImageSheetTest {
         x = Check.made("<0ab#2;0c#1;0def;>0def;0ab#0;0cx#2;");
         Check.due("renumbered by a pair and by a move", "2 0 1 1 2", x.count(10), x.count(9),
                 x.count(7), x.count(8), x.count(4));
+        x.head(2);
+        Check.due("found anew", "2 0 1 1 2", x.count(10), x.count(9), x.count(7), x.count(8), x.count(4));
         x = Check.made("<0a#0#1;0b;>0a#0#0;0b;");
         Check.due("a turn is not renumbered, nor is a number that stays", "0 1", x.count(10), x.count(9));
         x = Check.made("<0abm#0;>0mxy#0z;");

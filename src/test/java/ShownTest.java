@@ -85,6 +85,13 @@ final class ShownTest {
         x.choose(0, 1);
         x.choose(2, 2);
         shows(x, "0mxy#0;", "0mxy#0;");
+        x = Check.made("<0qqq;0a;1b;0c;>0ax;1by;0cz;");
+        Check.due("a removal and three stretches", "1 3", x.count(5), x.count(8));
+        x.choose(2, 1);
+        shows(x, "0qqq;0a;1by;0c;", "0ax;1by;0cz;");
+        x.choose(2, 2);
+        x.choose(3, 1);
+        shows(x, "0qqq;0a;1b;0cz;", "0ax;1b;0cz;");
         x = Check.made("<0abcdem;>0mvwxyz;");
         x.choose(0, 2);
         x.choose(1, 1);
