@@ -334,6 +334,9 @@ final class ComparisonEdges {
         changes("<0#2;0b;>0#9;0b;");
         changes("<0#1;0b;>0#2;0b;", "4 0 0 0 0 1 0 1");
         changes("<0#2;0b;>0#1;0b;", "4 0 0 0 0 1 0 1");
+        // one dangles, the other one leads to the first clause
+        changes("<0#9;>0#0;", "4 0 0 0 0 1 0 1");
+        changes("<0#0;>0#9;", "4 0 0 0 0 1 0 1");
         // another number, but the same clause; the same number, but another clause
         changes("<0#1;0b;>0#2;0;0b;", "1 0 -4 1 -4 -4 -4 -4");
         changes("<0#1;0b;>0#1;0;0b;", "4 0 0 0 0 1 0 1", "1 0 -4 1 -4 -4 -4 -4");
@@ -479,7 +482,16 @@ final class ComparisonEdges {
         x.choose(0, 1);
         x.choose(1, 2);
         shows(x, "0m;", "0m;");
+        x = Check.made("<0ab;1cd;0ef;>0ax;1cy;0ez;");
+        x.choose(1, 1);
+        shows(x, "0ab;1cy;0ef;", "0ax;1cy;0ez;");
+        x.choose(1, 2);
+        x.choose(2, 1);
+        shows(x, "0ab;1cd;0ez;", "0ax;1cd;0ez;");
         Check.sentence("The other clauses have their own words.");
+        // the moved clause has a reference that leads to another clause in each draft
+        shows(Check.made("<0abxy;1c#0;0gvw;>0abxy;0gvw;1c#1;"), "0abxy;1c#0;0gvw;",
+                "0abxy;0gvw;1c#1;");
         shows(Check.made("<0abcdef;1ghijkl;>0abcdef;0mnopqr;"), "0abcdef;1ghijkl;",
                 "0abcdef;0mnopqr;");
         Check.sentence("A kept reference is taken from the old draft, but from the new one if it"

@@ -360,6 +360,12 @@ final class DescriptionEdges {
         Check.same("shown", "", Check.shown(x, 1));
         x.head(9);
         Check.due("weight, cost", "12 12 12", x.clause(0, 0, 3), x.cost(0), x.cost(2));
+        x = Check.made("<0#1a;0bc;0mno;>0mno;0#2;0bc;");
+        Check.due("sums, renumbered ones, moves", "11 1 5 5 10 1 1", x.cost(0), x.cost(1), x.cost(2),
+                x.cost(3), x.cost(4), x.count(10), x.count(7));
+        x.head(2);
+        Check.due("not twice", "11 1 5 5 10 1 1", x.cost(0), x.cost(1), x.cost(2), x.cost(3),
+                x.cost(4), x.count(10), x.count(7));
     }
 
     private static void sheets() {
