@@ -129,6 +129,11 @@ final class ChangeEdges {
                 x.shown(0, 3));
         Check.due("lost ones that stand first", "4 2 2 6", x.shown(1, 0), x.shown(1, 1), x.shown(1,
                 2), x.shown(1, 3));
+        x = Check.made("<0a;1b#9;>0a;");
+        Check.due("before a removal is accepted", "2 3 1 1", x.shown(0, 0), x.shown(0, 1),
+                x.shown(0, 2), x.shown(0, 3));
+        x.choose(0, 1);
+        Check.due("after it", "1 1 0 0", x.shown(0, 0), x.shown(0, 1), x.shown(0, 2), x.shown(0, 3));
         x = Check.made("<0a;>");
         Check.due("nothing is shown", "0 0 0 0", x.shown(1, 0), x.shown(1, 1), x.shown(1, 2),
                 x.shown(1, 3));
@@ -294,6 +299,14 @@ final class ChangeEdges {
         x.choose(0, 2);
         x.choose(1, 1);
         Check.due("seven words in the first clause", -3, x.settle());
+        x = Check.made("<0p;0abcm;>0mxyz;");
+        x.choose(0, 2);
+        x.choose(1, 2);
+        x.choose(2, 1);
+        Check.due("seven words in the second clause", "-3 2", x.settle(), x.shown(0, 0));
+        x.choose(0, 1);
+        Check.due("the same clause is the first one now", "-3 2 1", x.settle(), x.choose(1, 1), x.settle());
+        Check.same("the old draft", "0mxyz;", Check.draft(x, 0));
         x = Check.made("<0abcdef;0abcdef;>0abcdef;0abcdef;");
         Check.due("more than six words in all", 2, x.settle());
     }

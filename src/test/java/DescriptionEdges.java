@@ -344,6 +344,7 @@ final class DescriptionEdges {
                 x.sheet(0, 1, 3), x.lay(0, 0, 1), x.fault(), x.head(10), x.swap(0, 0));
         Check.due("open ones after them", 0, x.count(1));
         foundAnew();
+        nothingIsLeftOfTheComparisonBefore();
     }
 
     /** Costs, pairs, changes and what is shown, each after an edit that makes it different. */
@@ -366,6 +367,28 @@ final class DescriptionEdges {
         x.head(2);
         Check.due("not twice", "11 1 5 5 10 1 1", x.cost(0), x.cost(1), x.cost(2), x.cost(3),
                 x.cost(4), x.count(10), x.count(7));
+    }
+
+    /** There were more steps and changes before; what is left of them must not count. */
+    private static void nothingIsLeftOfTheComparisonBefore() {
+        ClauseDrafts x = Check.made("<0apb;>0aqbr;");
+        Check.due("two stretches, then one", "2 3 1", x.count(0), x.erase(1, 0, 3), x.count(0));
+        Check.same("shown by way 0", "0apb;", Check.shown(x, 0));
+        Check.same("shown by way 1", "0aqb;", Check.shown(x, 1));
+        x = Check.made("<0ab;0cd;0x;>0ab;0cd;");
+        x.strike(0, 2);
+        x.strike(0, 1);
+        x.write(1, 1, 0, 24);
+        x.erase(1, 1, 1);
+        Check.due("added, not moved", "1 1 0 1 -4", x.count(0), x.count(6), x.count(7),
+                x.clause(1, 1, 6), x.clause(1, 1, 5));
+        x = Check.made("<0ab;0cd;>0ab;0cd;0x;");
+        x.strike(1, 2);
+        x.strike(1, 1);
+        x.write(0, 1, 0, 24);
+        x.erase(0, 1, 1);
+        Check.due("removed, not moved", "1 1 0 1 -4", x.count(0), x.count(5), x.count(7),
+                x.clause(0, 1, 6), x.clause(0, 1, 5));
     }
 
     private static void sheets() {
