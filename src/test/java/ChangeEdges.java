@@ -134,6 +134,9 @@ final class ChangeEdges {
                 x.shown(0, 2), x.shown(0, 3));
         x.choose(0, 1);
         Check.due("after it", "1 1 0 0", x.shown(0, 0), x.shown(0, 1), x.shown(0, 2), x.shown(0, 3));
+        x = Check.made("<0a;>0a#9;");
+        Check.due("a lost word, then without it", "2 1 0 1 0", x.shown(1, 1), x.shown(1, 2),
+                x.choose(0, 2), x.shown(1, 1), x.shown(1, 2));
         x = Check.made("<0a;>");
         Check.due("nothing is shown", "0 0 0 0", x.shown(1, 0), x.shown(1, 1), x.shown(1, 2),
                 x.shown(1, 3));

@@ -242,6 +242,10 @@ final class ComparisonEdges {
         fates(old + "1#9x;2k;2;", 2, "0:0 1:-4 1:-4 1:-4 0:1 / 0:0 0:4 1:-4 1:-4 1:-4");
         fates(old + "1x#9;2y;2;", 2, "0:0 1:-4 1:-4 1:-4 0:1 / 0:0 0:4 1:-4 1:-4 1:-4");
         fates("<0abcdef;1;0ghijkl;>0abcdef;0ghijkl;1;", 2, "0:0 2:2 0:1 / 0:0 0:2 2:1");
+        ClauseDrafts x = Check.made("<0abcdef;1q;0ghijkl;>0abcdef;0ghijkl;1qr;");
+        Check.same("a word too much", "0:0 1:-4 0:1 / 0:0 0:2 1:-4", fates(x));
+        x.erase(1, 2, 1);
+        Check.same("without it", "0:0 2:2 0:1 / 0:0 0:2 2:1", fates(x));
         // only whole branches are looked at, not what is below their first clauses
         fates("<0abcdef;1x;2yy;0ghijkl;>0abcdef;0ghijkl;1yy;", 2,
                 "0:0 1:-4 1:-4 0:1 / 0:0 0:3 1:-4");

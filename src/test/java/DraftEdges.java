@@ -51,6 +51,12 @@ final class DraftEdges {
                 x.draft(0, 3), x.draft(0, 4));
         Check.due("a full new draft", "8 48 48 48 120", x.draft(1, 0), x.draft(1, 1), x.draft(1, 2),
                 x.draft(1, 3), x.draft(1, 4));
+        x = Check.made("<0a#0#9;>");
+        Check.due("with two references", "3 2 1", x.draft(0, 1), x.draft(0, 2), x.draft(0, 3));
+        x.erase(0, 0, 2);
+        Check.due("with one", "2 1 0", x.draft(0, 1), x.draft(0, 2), x.draft(0, 3));
+        x.erase(0, 0, 1);
+        Check.due("without any", "1 0 0", x.draft(0, 1), x.draft(0, 2), x.draft(0, 3));
         Check.sentence("Returns it; errors: BAD.");
         Check.each("no such property", -1, x.draft(0, -1), x.draft(1, 5), x.draft(0, FAR),
                 x.draft(1, LOW));
