@@ -90,6 +90,8 @@ final class FaceTest {
             Check.holds(c + " has at most twenty fields", fields <= 20);
             for (Method m : c.getDeclaredMethods()) {
                 Check.holds(m + " has at most seven parameters", m.getParameterCount() <= 7);
+                Check.holds(m + " has no name of a public method",
+                        FACE.stream().noneMatch(face -> face.startsWith(m.getName() + " ")));
             }
         }
     }

@@ -1,19 +1,12 @@
-import java.util.List;
 import java.util.Random;
 
 /** Random runs on the class and on the model; after each call everything is asked of both. */
-final class ModelTest {
+final class ModelTest extends Beside {
     private static final int RUNS = 1500, CALLS = 40;
-    private static int wrong = 0;
-    private static long asked = 0;
-    private static final int[] kinds = new int[5];
     private static int fulls = 0;
     private static int settled = 0;
 
     private final Random random;
-    private final ClauseDrafts x = new ClauseDrafts();
-    private final Model m = new Model();
-    private final StringBuilder log = new StringBuilder();
 
     private ModelTest(long seed) {
         random = new Random(seed);
@@ -25,16 +18,8 @@ final class ModelTest {
         for (long seed = start; seed < start + runs && wrong == 0; seed++) {
             new ModelTest(seed).run();
         }
-        System.out.println(asked + " answers, " + wrong + " wrong; changes of the kinds 0 to 4: "
-                + kinds[0] + " " + kinds[1] + " " + kinds[2] + " " + kinds[3] + " " + kinds[4]
-                + "; settled " + settled + ", too full to settle " + fulls);
-        boolean poor = fulls == 0 || settled == 0;
-        for (int seen : kinds) {
-            poor |= seen == 0;
-        }
-        if (wrong > 0 || poor) {
-            System.exit(1);
-        }
+        System.out.println("settled " + settled + ", too full to settle " + fulls);
+        finish(fulls > 0 && settled > 0);
     }
 
     private void run() {
@@ -49,24 +34,6 @@ final class ModelTest {
         for (int call = 0; call < CALLS && wrong == 0; call++) {
             act();
             askAll();
-        }
-    }
-
-    private void same(String call, int want, int got) {
-        asked++;
-        log.append(call).append(" -> ").append(got).append('\n');
-        tell(call, want, got);
-    }
-
-    private void tell(String call, int want, int got) {
-        if (want != got) {
-            wrong++;
-            if (wrong == 1) {
-                System.out.println(log);
-            }
-            if (wrong < 20) {
-                System.out.println(call + " answered " + got + ", the model says " + want);
-            }
         }
     }
 
@@ -87,13 +54,6 @@ final class ModelTest {
         int r = random.nextInt(60);
         if (r == 0) return new int[] {0, 27, 28, 29, 40, -1, 26, 39}[random.nextInt(8)];
         return r < 25 ? 30 + upTo(9) : 1 + upTo(2);
-    }
-
-    private void feedText(String text) {
-        for (int i = 0; i < text.length(); i++) {
-            int c = text.charAt(i);
-            same("feed(" + c + ")", m.feed(c), x.feed(c));
-        }
     }
 
     /** No text has room for two drafts that are as full as they can be. */
@@ -289,72 +249,6 @@ final class ModelTest {
                     int n = around(2);
                     same("end(" + n + ")", m.end(n), x.end(n));
                 }
-        }
-    }
-
-    private void ask(String name, int want, int got, int... with) {
-        asked++;
-        if (want != got) {
-            StringBuilder call = new StringBuilder(name);
-            for (int v : with) call.append(' ').append(v);
-            tell(call.toString(), want, got);
-        }
-    }
-
-    private void askAll() {
-        for (int what = 5; what <= 9; what++) kinds[what - 5] += x.count(what);
-        ask("fault", m.fault(), x.fault());
-        for (int what = -1; what <= 14; what++) ask("count", m.count(what), x.count(what), what);
-        for (int what = -1; what <= 5; what++) ask("cost", m.cost(what), x.cost(what), what);
-        for (int side = -1; side <= 2; side++) askDraft(side);
-        for (int a = -1; a <= 8; a++) {
-            for (int b = -1; b <= 8; b++) ask("between", m.between(a, b), x.between(a, b), a, b);
-        }
-        for (int k = -1; k <= m.count(0); k++) {
-            for (int what = -1; what <= 8; what++) {
-                ask("change", m.change(k, what), x.change(k, what), k, what);
-            }
-        }
-        askShown(0);
-        askShown(1);
-        ask("shown", -1, x.shown(2, 0));
-        ask("shown", -1, x.shown(-1, 0));
-        ask("shownClause", -1, x.shownClause(2, 0, 0));
-        ask("shownWord", -1, x.shownWord(-1, 0, 0));
-        ask("find", -1, x.find(2, 0, 0));
-    }
-
-    private void askDraft(int side) {
-        for (int what = -1; what <= 5; what++) ask("draft", m.draft(side, what), x.draft(side, what), side, what);
-        for (int c = -1; c <= 8; c++) {
-            for (int what = -1; what <= 7; what++) {
-                ask("clause", m.clause(side, c, what), x.clause(side, c, what), side, c, what);
-            }
-            for (int w = -1; w <= 6; w++) {
-                ask("word", m.word(side, c, w), x.word(side, c, w), side, c, w);
-                ask("kept", m.kept(side, c, w), x.kept(side, c, w), side, c, w);
-                ask("leads", m.leads(side, c, w), x.leads(side, c, w), side, c, w);
-            }
-        }
-    }
-
-    private void askShown(int way) {
-        List<Model.ShownClause> all = m.show(way);
-        for (int what = -1; what <= 4; what++) {
-            ask("shown", Model.shown(all, what), x.shown(way, what), way, what);
-        }
-        for (int i = -1; i <= 16; i++) {
-            for (int what = -1; what <= 4; what++) {
-                ask("shownClause", Model.shownClause(all, i, what), x.shownClause(way, i, what), way, i, what);
-            }
-            for (int w = -1; w <= 12; w++) {
-                ask("shownWord", Model.shownWord(all, i, w), x.shownWord(way, i, w), way, i, w);
-            }
-        }
-        for (int side = -1; side <= 2; side++) {
-            for (int c = -1; c <= 8; c++) {
-                ask("find", m.find(all, side, c), x.find(way, side, c), way, side, c);
-            }
         }
     }
 }

@@ -63,13 +63,12 @@ final class RulesTest extends TreePathScanner<Void, Void> {
         rules.scan(units, null);
         Check.holds("rule 11: some twelve classes, " + rules.classes, rules.classes <= 12);
         Check.due("rule 1: the public methods", 33, rules.publicMethods.size());
-        Check.holds("the calls were seen", rules.depth("ClauseDrafts.text()", new HashSet<>()) > 4);
-        for (String method : rules.publicMethods) {
-            int depth = rules.depth(method, new HashSet<>());
-            Check.holds("rule 11: calls go at most eight deep: " + method + " " + depth, depth <= 8);
-        }
+        Check.holds("the calls were seen", rules.depth("ClauseDrafts.text()", new HashSet<>()) > 4
+                && rules.depth("ClauseDrafts.ClauseDrafts()", new HashSet<>()) > 4);
         for (String method : rules.calls.keySet()) {
-            Check.holds("rule 8: no recursion here: " + method, rules.depth(method, new HashSet<>()) < 99);
+            int depth = rules.depth(method, new HashSet<>());
+            Check.holds("rule 8: no recursion here: " + method, depth < 99);
+            Check.holds("rule 11: calls go at most eight deep: " + method + " " + depth, depth <= 8);
         }
         Check.finish();
     }
@@ -196,18 +195,30 @@ final class RulesTest extends TreePathScanner<Void, Void> {
         return super.visitMethod(tree, none);
     }
 
+    /** The library's methods count too, and what a field's initialiser calls the constructor calls. */
     private void noteCall(Element called) {
-        MethodTree caller = method();
-        if (isOurs(called)) {
-            Element from = caller == null ? null
-                    : trees.getElement(trees.getPath(getCurrentPath().getCompilationUnit(), caller));
-            if (from != null) {
-                calls.computeIfAbsent(name(from), key -> new TreeSet<>()).add(name(called));
-            }
-        } else {
+        if (!isOurs(called)) {
             String library = called.getEnclosingElement() + "." + called.getSimpleName();
             Check.holds("rule 4: the library's " + library, LIBRARY.contains(library));
         }
+        for (String caller : callers()) {
+            calls.computeIfAbsent(caller, key -> new TreeSet<>()).add(name(called));
+        }
+    }
+
+    private List<String> callers() {
+        CompilationUnitTree unit = getCurrentPath().getCompilationUnit();
+        MethodTree caller = method();
+        if (caller != null) {
+            return List.of(name(trees.getElement(trees.getPath(unit, caller))));
+        }
+        TreePath path = getCurrentPath();
+        while (!(path.getLeaf() instanceof ClassTree)) {
+            path = path.getParentPath();
+        }
+        return trees.getElement(path).getEnclosedElements().stream()
+                .filter(member -> member.getKind() == ElementKind.CONSTRUCTOR)
+                .map(RulesTest::name).toList();
     }
 
     @Override
