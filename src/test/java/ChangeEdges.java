@@ -203,6 +203,10 @@ final class ChangeEdges {
         Check.due("a clause that is shown no more", "2 0 -4 -4", x.shownWord(0, 1, 0), x.choose(0,
                 1), x.shownWord(0, 1, 0),
                 x.shownWord(0, 1, 2));
+        x = Check.made("<0a;0bc;1de;1fg;>0a;");
+        Check.due("a branch that is shown no more", "2 4 6 0 -4 -4 -4", x.shownWord(0, 1, 0),
+                x.shownWord(0, 2, 0), x.shownWord(0, 3, 0), x.choose(0, 1), x.shownWord(0, 1, 0),
+                x.shownWord(0, 2, 0), x.shownWord(0, 3, 1));
         x = Check.made("<0abcdem;>0mvwxyz;");
         x.choose(0, 2);
         x.choose(1, 1);

@@ -218,6 +218,9 @@ final class EditEdges {
         x = Check.made("<0#6#7#8;0;0;0;0;0;0#7;0#6#9;>");
         Check.due("the last two of eight", 7, x.swap(0, 6));
         drafts(x, "0#7#6#8;0;0;0;0;0;0#7#9;0#6;", "");
+        ClauseDrafts y = Check.made("<0#0#1#2#3#4#5;0#6#7;0;0;0;0;0;0;>");
+        Check.due("the first two of eight: the others keep their numbers", 1, y.swap(0, 0));
+        drafts(y, "0#6#7;0#1#0#2#3#4#5;0;0;0;0;0;0;", "");
         Check.sentence("side: 0 or 1");
         Check.each("sides", -1, x.swap(-1, 0), x.swap(2, 0), x.swap(FAR, 0), x.swap(LOW, 0));
         Check.sentence("c: the clause");
